@@ -12,7 +12,6 @@ public final class AclInherit {
 
     private static final int OBJECTS = 16;
     private static final int PERSONS = 6;
-    private static final int GROUPS = 2;
     private static final int WHOS = 8;
     private static final int RIGHTS = 4;
     private static final int RIGHT_SETS = 16;
@@ -32,7 +31,9 @@ public final class AclInherit {
     private int standing;
     private int closed;
     private final int[] parent = new int[OBJECTS];
-    private final int[] groupMembers = new int[GROUPS];
+
+    // The persons that each who covers: a person always just itself, a group those put into it.
+    private final int[] covered = new int[WHOS];
 
     // Entry i of object o is in slot ENTRIES_EACH * o + i.
     private final int[] entryCount = new int[OBJECTS];
@@ -43,6 +44,9 @@ public final class AclInherit {
     public AclInherit() {
         standing = 1 << ROOT;
         closed = 0;
+        for (int p = 0; p < PERSONS; p++) {
+            covered[p] = 1 << p;
+        }
     }
 
     public int create(int o, int q) {
@@ -112,10 +116,8 @@ public final class AclInherit {
         if (!isGroup(g) || !isPerson(p)) {
             return BAD_ARG;
         }
-        int group = g - PERSONS;
-        int members = groupMembers[group];
-        int before = has(members, p) ? 1 : 0;
-        groupMembers[group] = with(members, p, on != 0);
+        int before = has(covered[g], p) ? 1 : 0;
+        covered[g] = with(covered[g], p, on != 0);
         return before;
     }
 
@@ -296,19 +298,12 @@ public final class AclInherit {
         return false;
     }
 
-    private boolean covers(int who, int p) {
-        if (isGroup(who)) {
-            return has(groupMembers[who - PERSONS], p);
-        }
-        return who == p;
-    }
-
     /** The rights named by those entries of o that cover p and whose mode, under mask, is wanted. */
     private int rightsNamed(int o, int p, int mask, int wanted) {
         int named = 0;
         int end = ENTRIES_EACH * o + entryCount[o];
         for (int slot = ENTRIES_EACH * o; slot < end; slot++) {
-            if ((entryMode[slot] & mask) == wanted && covers(entryWho[slot], p)) {
+            if ((entryMode[slot] & mask) == wanted && has(covered[entryWho[slot]], p)) {
                 named = named | entryRights[slot];
             }
         }
@@ -318,21 +313,21 @@ public final class AclInherit {
     /**
      * The rights of p on o if just the objects of closedSet were closed.
      *
-     * <p>One object's denying entries all stand before its allowing ones, so within one object the
-     * order of entries decides nothing: a right is settled by the nearest object that names it, and
-     * is denied there if any entry denies it.
+     * <p>One object's denying entries all stand before its allowing ones, so it is enough to take
+     * each object's denied rights as one set and then its allowed ones: a right once denied can't be
+     * allowed from further up, and one once allowed stays so.
      */
     private int rightsIfClosed(int o, int p, int closedSet) {
         int allowed = 0;
-        int settled = 0;
+        int denied = 0;
         int at = o;
         int mask = NOT_FOR_ITSELF;
         int wanted = 0;
         for (int step = 0; step < OBJECTS; step++) {
             int denies = rightsNamed(at, p, mask | ALLOWS, wanted);
             int allows = rightsNamed(at, p, mask | ALLOWS, wanted | ALLOWS);
-            allowed = allowed | (allows & ~denies & ~settled);
-            settled = settled | denies | allows;
+            denied = denied | denies;
+            allowed = allowed | (allows & ~denied);
             if (at == ROOT || has(closedSet, at)) {
                 break;
             }

@@ -146,6 +146,11 @@ public final class PromisesTest {
         y.move(15, 1);
         due("3: no longer a parent", y.remove(2), 0);
         due("3: a parent through a move", y.remove(1), BELOW);
+
+        AclInherit z = new AclInherit();
+        z.create(2, 0);
+        z.create(1, 2);
+        due("3: a parent of 1 alone", z.remove(2), BELOW);
     }
 
     private static void promise4Move() {
@@ -635,6 +640,14 @@ public final class PromisesTest {
         due("16: all below count", y.stir(1), 3);
         y.remove(15);
         due("16: a gone one does not", y.stir(1), 2);
+
+        AclInherit z = chain(15);
+        for (int p = 0; p < 6; p++) {
+            z.member(7, p, 1);
+        }
+        z.entry(0, 7, 8, ALLOW | PASSED_ON);
+        due("16: all persons on all objects but 0", z.stir(1), 90);
+        due("16: all persons on 15", z.stir(15), 6);
     }
 
     public static void main(String[] args) {
@@ -665,6 +678,7 @@ public final class PromisesTest {
         promise14Count();
         promise15Reach();
         promise16Stir();
+        promise16StirComparesRights();
         System.out.println(wrong == 0 ? "all answers are as due" : wrong + " answers are not as due");
         if (wrong != 0) {
             System.exit(1);
