@@ -1,262 +1,10 @@
-import java.util.ArrayList;
-import java.util.HashSet;
-import java.util.List;
-import java.util.Set;
-import java.util.TreeMap;
-
 // Long runs of calls, each answer compared with that of a model which follows the document's words.
-public final class ModelTest {
+public final class ModelTest extends Check {
     private static final int RUNS = 4000;
     private static final int MOST_CALLS = 512;
     private static final int CALLS_TO_LOOK = 16 + 16 + 16 * 6;
 
-    private record Entry(boolean allows, int who, int rights, int flags) {
-        boolean has(int flag) {
-            return (flags & flag) != 0;
-        }
-    }
-
-    private static final class Node {
-        int parent;
-        boolean closed;
-        final List<Entry> entries = new ArrayList<>();
-
-        Node(int parent) {
-            this.parent = parent;
-        }
-    }
-
-    private static final class Model {
-        private final TreeMap<Integer, Node> nodes = new TreeMap<>();
-        private final List<Set<Integer>> groups = List.of(new HashSet<>(), new HashSet<>());
-
-        Model() {
-            nodes.put(0, new Node(-1));
-        }
-
-        private static boolean in(int n, int least, int most) {
-            return least <= n && n <= most;
-        }
-
-        private static void addKind(List<Entry> list, List<Entry> from, boolean allows) {
-            for (Entry e : from) {
-                if (e.allows() == allows) {
-                    list.add(e);
-                }
-            }
-        }
-
-        private static void addBoth(List<Entry> list, List<Entry> from) {
-            addKind(list, from, false);
-            addKind(list, from, true);
-        }
-
-        private List<Entry> listOf(int o) {
-            List<Entry> list = new ArrayList<>();
-            addBoth(list, nodes.get(o).entries.stream().filter(e -> !e.has(2)).toList());
-            int left = o;
-            boolean first = true;
-            while (left != 0 && !nodes.get(left).closed) {
-                int q = nodes.get(left).parent;
-                boolean nearest = first;
-                addBoth(list, nodes.get(q).entries.stream()
-                    .filter(e -> e.has(1) && (nearest || !e.has(4))).toList());
-                left = q;
-                first = false;
-            }
-            return list;
-        }
-
-        private boolean covers(int who, int p) {
-            return who < 6 ? who == p : groups.get(who - 6).contains(p);
-        }
-
-        private boolean allowed(int o, int p, int r) {
-            for (Entry e : listOf(o)) {
-                if (covers(e.who(), p) && (e.rights() >> r) % 2 == 1) {
-                    return e.allows();
-                }
-            }
-            return false;
-        }
-
-        private int rightsOf(int o, int p) {
-            int sum = 0;
-            for (int r = 0; r < 4; r++) {
-                sum += allowed(o, p, r) ? 1 << r : 0;
-            }
-            return sum;
-        }
-
-        private boolean goes(int o, int p) {
-            return allowed(o, p, 0) && (o == 0 || goes(nodes.get(o).parent, p));
-        }
-
-        private boolean atOrBelow(int o, int top) {
-            return o == top || o != 0 && atOrBelow(nodes.get(o).parent, top);
-        }
-
-        private List<Integer> allRights() {
-            List<Integer> all = new ArrayList<>();
-            for (int o : nodes.keySet()) {
-                for (int p = 0; p < 6; p++) {
-                    all.add(rightsOf(o, p));
-                }
-            }
-            return all;
-        }
-
-        int create(int o, int q) {
-            if (!in(o, 1, 15) || !in(q, 0, 15)) {
-                return -1;
-            }
-            if (nodes.containsKey(o) || !nodes.containsKey(q)) {
-                return -3;
-            }
-            nodes.put(o, new Node(q));
-            return 0;
-        }
-
-        int remove(int o) {
-            if (!in(o, 1, 15)) {
-                return -1;
-            }
-            if (!nodes.containsKey(o)) {
-                return -3;
-            }
-            if (nodes.values().stream().anyMatch(n -> n.parent == o)) {
-                return -4;
-            }
-            nodes.remove(o);
-            return 0;
-        }
-
-        int move(int o, int q) {
-            if (!in(o, 1, 15) || !in(q, 0, 15)) {
-                return -1;
-            }
-            if (!nodes.containsKey(o) || !nodes.containsKey(q)) {
-                return -3;
-            }
-            if (atOrBelow(q, o)) {
-                return -4;
-            }
-            int before = nodes.get(o).parent;
-            nodes.get(o).parent = q;
-            return before;
-        }
-
-        int parentOf(int o) {
-            return o == 0 || !nodes.containsKey(o) ? -3 : nodes.get(o).parent;
-        }
-
-        int refusal(int o) {
-            return !in(o, 0, 15) ? -1 : !nodes.containsKey(o) ? -3 : 0;
-        }
-
-        int close(int o, int on) {
-            if (refusal(o) != 0) {
-                return refusal(o);
-            }
-            boolean before = nodes.get(o).closed;
-            nodes.get(o).closed = on != 0;
-            return before ? 1 : 0;
-        }
-
-        int member(int g, int p, int on) {
-            if (!in(g, 6, 7) || !in(p, 0, 5)) {
-                return -1;
-            }
-            Set<Integer> group = groups.get(g - 6);
-            boolean before = on != 0 ? !group.add(p) : group.remove(p);
-            return before ? 1 : 0;
-        }
-
-        int entry(int o, int who, int rights, int kindAndFlags) {
-            if (!in(o, 0, 15) || !in(who, 0, 7) || !in(rights, 0, 15) || !in(kindAndFlags, 0, 15)) {
-                return -1;
-            }
-            if (!nodes.containsKey(o)) {
-                return -3;
-            }
-            List<Entry> list = nodes.get(o).entries;
-            if (list.size() == 4) {
-                return -2;
-            }
-            list.add(new Entry(kindAndFlags / 8 == 1, who, rights, kindAndFlags % 8));
-            return list.size();
-        }
-
-        int drop(int o, int i) {
-            if (refusal(o) != 0) {
-                return refusal(o);
-            }
-            List<Entry> list = nodes.get(o).entries;
-            if (!in(i, 0, list.size() - 1)) {
-                return -3;
-            }
-            list.remove(i);
-            return list.size();
-        }
-
-        int entries(int o) {
-            return refusal(o) != 0 ? refusal(o) : nodes.get(o).entries.size();
-        }
-
-        int rights(int o, int p) {
-            if (!in(p, 0, 5)) {
-                return -1;
-            }
-            return refusal(o) != 0 ? refusal(o) : rightsOf(o, p);
-        }
-
-        int may(int o, int p, int r) {
-            return in(p, 0, 5) && in(r, 0, 3) && refusal(o) == 0 && allowed(o, p, r) ? 1 : 0;
-        }
-
-        int who(int o, int r) {
-            if (!in(r, 0, 3)) {
-                return -1;
-            }
-            if (refusal(o) != 0) {
-                return refusal(o);
-            }
-            int sum = 0;
-            for (int p = 0; p < 6; p++) {
-                sum += allowed(o, p, r) ? 1 << p : 0;
-            }
-            return sum;
-        }
-
-        int count(int p, int r) {
-            if (!in(p, 0, 5) || !in(r, 0, 3)) {
-                return -1;
-            }
-            return (int) nodes.keySet().stream().filter(o -> allowed(o, p, r)).count();
-        }
-
-        int reach(int p) {
-            return !in(p, 0, 5) ? -1 : (int) nodes.keySet().stream().filter(o -> goes(o, p)).count();
-        }
-
-        int stir(int o) {
-            if (refusal(o) != 0) {
-                return refusal(o);
-            }
-            List<Integer> now = allRights();
-            nodes.get(o).closed = !nodes.get(o).closed;
-            List<Integer> then = allRights();
-            nodes.get(o).closed = !nodes.get(o).closed;
-            int others = 0;
-            for (int k = 0; k < now.size(); k++) {
-                others += now.get(k).equals(then.get(k)) ? 0 : 1;
-            }
-            return others;
-        }
-    }
-
     private static long seed = 20261115L;
-    private static int wrong = 0;
 
     // A row of numbers of its own, so that every run of the test makes the same calls.
     private static int next(int bound) {
@@ -269,72 +17,50 @@ public final class ModelTest {
         if (next(40) != 0) {
             return least + next(most - least + 1);
         }
-        int[] odd = {least - 1, most + 1, Integer.MIN_VALUE, Integer.MAX_VALUE, most + 32, -32};
+        int[] odd = {least - 1, most + 1, MIN, MAX, most + 32, -32};
         return odd[next(odd.length)];
     }
 
-    private static void due(int run, int number, String call, int got, int want) {
-        if (got != want) {
-            wrong++;
-            if (wrong <= 20) {
-                System.out.println("run " + run + ", call " + number + ": " + call
-                    + " answered " + got + ", due is " + want);
-            }
-        }
-    }
-
-    private static void oneCall(int run, int number, AclInherit x, Model m, int size) {
+    private static Call anyCall(int size) {
         int o = pick(0, size);
         int q = pick(0, size);
         int p = pick(0, 5);
         int r = pick(0, 3);
         int on = next(2) * (next(5) - 2);
-        int which = next(26);
-        switch (which) {
-            case 0, 1, 2, 3 -> due(run, number, "create(" + o + ", " + q + ")", x.create(o, q), m.create(o, q));
-            case 4 -> due(run, number, "remove(" + o + ")", x.remove(o), m.remove(o));
-            case 5, 6 -> due(run, number, "move(" + o + ", " + q + ")", x.move(o, q), m.move(o, q));
-            case 7 -> due(run, number, "parentOf(" + o + ")", x.parentOf(o), m.parentOf(o));
-            case 8 -> due(run, number, "close(" + o + ", " + on + ")", x.close(o, on), m.close(o, on));
-            case 9, 10 -> {
-                int g = pick(6, 7);
-                due(run, number, "member(" + g + ", " + p + ", " + on + ")", x.member(g, p, on), m.member(g, p, on));
-            }
-            case 11, 12, 13, 14, 15 -> {
-                int who = pick(0, 7);
-                int rights = pick(0, 15);
-                int mode = pick(0, 15);
-                String call = "entry(" + o + ", " + who + ", " + rights + ", " + mode + ")";
-                due(run, number, call, x.entry(o, who, rights, mode), m.entry(o, who, rights, mode));
-            }
-            case 16, 17 -> {
-                int i = pick(0, 3);
-                due(run, number, "drop(" + o + ", " + i + ")", x.drop(o, i), m.drop(o, i));
-            }
-            case 18 -> due(run, number, "entries(" + o + ")", x.entries(o), m.entries(o));
-            case 19 -> due(run, number, "rights(" + o + ", " + p + ")", x.rights(o, p), m.rights(o, p));
-            case 20 -> {
-                String call = "may(" + o + ", " + p + ", " + r + ")";
-                due(run, number, call, x.may(o, p, r) ? 1 : 0, m.may(o, p, r));
-            }
-            case 21 -> due(run, number, "who(" + o + ", " + r + ")", x.who(o, r), m.who(o, r));
-            case 22 -> due(run, number, "count(" + p + ", " + r + ")", x.count(p, r), m.count(p, r));
-            case 23 -> due(run, number, "reach(" + p + ")", x.reach(p), m.reach(p));
-            default -> due(run, number, "stir(" + o + ")", x.stir(o), m.stir(o));
-        }
+        return switch (next(26)) {
+            case 0, 1, 2, 3 -> new Call("create", o, q);
+            case 4 -> new Call("remove", o);
+            case 5, 6 -> new Call("move", o, q);
+            case 7 -> new Call("parentOf", o);
+            case 8 -> new Call("close", o, on);
+            case 9, 10 -> new Call("member", pick(6, 7), p, on);
+            case 11, 12, 13, 14, 15 -> new Call("entry", o, pick(0, 7), pick(0, 15), pick(0, 15));
+            case 16, 17 -> new Call("drop", o, pick(0, 3));
+            case 18 -> new Call("entries", o);
+            case 19 -> new Call("rights", o, p);
+            case 20 -> new Call("may", o, p, r);
+            case 21 -> new Call("who", o, r);
+            case 22 -> new Call("count", p, r);
+            case 23 -> new Call("reach", p);
+            default -> new Call("stir", o);
+        };
     }
 
-    private static void lookAtAll(int run, int number, AclInherit x, Model m) {
+    private static void compare(String when, Call call, AclInherit x, Model m) {
+        due(when + ": " + call, call.on(x), call.on(m));
+    }
+
+    private static void lookAtAll(String when, AclInherit x, Model m) {
         for (int o = 0; o < 16; o++) {
-            due(run, number, "at the end parentOf(" + o + ")", x.parentOf(o), m.parentOf(o));
-            due(run, number, "at the end entries(" + o + ")", x.entries(o), m.entries(o));
+            compare(when, new Call("parentOf", o), x, m);
+            compare(when, new Call("entries", o), x, m);
             for (int p = 0; p < 6; p++) {
-                due(run, number, "at the end rights(" + o + ", " + p + ")", x.rights(o, p), m.rights(o, p));
+                compare(when, new Call("rights", o, p), x, m);
             }
         }
     }
 
-    public static void main(String[] args) {
+    private static void longRuns() {
         for (int run = 1; run <= RUNS; run++) {
             AclInherit x = new AclInherit();
             Model m = new Model();
@@ -342,13 +68,13 @@ public final class ModelTest {
             int size = 2 + next(14);
             int calls = 1 + next(MOST_CALLS - CALLS_TO_LOOK);
             for (int number = 1; number <= calls; number++) {
-                oneCall(run, number, x, m, size);
+                compare("run " + run + ", call " + number, anyCall(size), x, m);
             }
-            lookAtAll(run, calls, x, m);
+            lookAtAll("run " + run + " at its end", x, m);
         }
-        System.out.println(wrong == 0 ? "all answers are as due" : wrong + " answers are not as due");
-        if (wrong != 0) {
-            System.exit(1);
-        }
+    }
+
+    public static void main(String[] args) {
+        runAll(ModelTest.class);
     }
 }

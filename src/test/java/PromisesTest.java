@@ -1,48 +1,5 @@
 // One method for each promise: ordinary inputs, the edges that the document names, and wrong inputs.
-public final class PromisesTest {
-    private static final int BAD_ARG = -1;
-    private static final int FULL = -2;
-    private static final int NONE = -3;
-    private static final int BELOW = -4;
-    private static final int MIN = Integer.MIN_VALUE;
-    private static final int MAX = Integer.MAX_VALUE;
-
-    private static final int DENY = 0;
-    private static final int ALLOW = 8;
-    private static final int PASSED_ON = 1;
-    private static final int NOT_FOR_ITSELF = 2;
-    private static final int ONE_STEP = 4;
-
-    private static final int[] NOT_OBJECTS = {MIN, -16, -1, 16, 17, 32, MAX};
-    private static final int[] NOT_MOVABLE = {MIN, -16, -1, 0, 16, 17, 32, MAX};
-    private static final int[] NOT_PERSONS = {MIN, -1, 6, 7, 32, MAX};
-    private static final int[] NOT_GROUPS = {MIN, -1, 0, 5, 8, 38, MAX};
-    private static final int[] NOT_WHOS = {MIN, -1, 8, 40, MAX};
-    private static final int[] NOT_RIGHTS = {MIN, -1, 4, 32, MAX};
-    private static final int[] NOT_SETS = {MIN, -1, 16, 32, MAX};
-
-    private static int wrong = 0;
-
-    private static void due(String call, int got, int want) {
-        if (got != want) {
-            wrong++;
-            System.out.println(call + " answered " + got + ", due is " + want);
-        }
-    }
-
-    private static void due(String call, boolean got, boolean want) {
-        due(call, got ? 1 : 0, want ? 1 : 0);
-    }
-
-    /** An object with 1 below 0, 2 below 1, and so on up to the given depth. */
-    private static AclInherit chain(int depth) {
-        AclInherit x = new AclInherit();
-        for (int o = 1; o <= depth; o++) {
-            due("chain: create " + o, x.create(o, o - 1), 0);
-        }
-        return x;
-    }
-
+public final class PromisesTest extends Check {
     private static void constants() {
         due("BAD_ARG", AclInherit.BAD_ARG, BAD_ARG);
         due("FULL", AclInherit.FULL, FULL);
@@ -651,37 +608,6 @@ public final class PromisesTest {
     }
 
     public static void main(String[] args) {
-        constants();
-        promise1NewObject();
-        promise2Create();
-        promise2CreateAgain();
-        promise2RefusedKeepsState();
-        promise3Remove();
-        promise4Move();
-        promise4MoveInDeepTree();
-        promise4MoveKeepsTheRest();
-        promise5ParentOf();
-        promise6Close();
-        promise6ClosedStillHandsDown();
-        promise7Member();
-        promise8Entry();
-        promise8EveryObjectHasFour();
-        promise9Drop();
-        promise9DropMovesWholeEntries();
-        promise10Entries();
-        promise11RightsArguments();
-        promise11RightsOrder();
-        promise11RightsFlags();
-        promise11RightsInDeepTree();
-        promise12May();
-        promise13Who();
-        promise14Count();
-        promise15Reach();
-        promise16Stir();
-        promise16StirComparesRights();
-        System.out.println(wrong == 0 ? "all answers are as due" : wrong + " answers are not as due");
-        if (wrong != 0) {
-            System.exit(1);
-        }
+        runAll(PromisesTest.class);
     }
 }
