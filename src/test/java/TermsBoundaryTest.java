@@ -59,8 +59,8 @@ public final class TermsBoundaryTest extends Check {
             new Call("move", 2, 0), new Call("move", 1, 2), new Call("parentOf", 2), new Call("close", 1, 1),
             new Call("close", 1, 0), new Call("member", 6, 5, 1), new Call("member", 6, 0, 0),
             new Call("entry", 0, 5, 3, ALLOW), new Call("drop", 0, 0), new Call("entries", 0),
-            new Call("rights", 0, 0), new Call("rights", 1, 0), new Call("may", 0, 0, 3), new Call("who", 0, 0), new Call("count", 0, 2),
-            new Call("reach", 0), new Call("stir", 1), new Call("entries", 16));
+            new Call("rights", 0, 0), new Call("rights", 1, 0), new Call("may", 0, 0, 3), new Call("who", 0, 0),
+            new Call("count", 0, 2), new Call("reach", 0), new Call("stir", 1), new Call("entries", 16));
         for (Call again : calls) {
             for (Call last : calls) {
                 AclInherit x = new AclInherit();
