@@ -1,7 +1,10 @@
 import java.lang.reflect.Constructor;
+import java.lang.reflect.Executable;
 import java.lang.reflect.Field;
 import java.lang.reflect.Method;
 import java.lang.reflect.Modifier;
+import java.util.ArrayList;
+import java.util.List;
 import java.util.Set;
 import java.util.TreeSet;
 
@@ -59,6 +62,43 @@ public final class FaceTest {
         return seen;
     }
 
+    /** How many members say that they throw something; the document's say nothing of that kind. */
+    private static int exceptionsNamed() {
+        int wrong = 0;
+        List<Executable> members = new ArrayList<>(List.of(AclInherit.class.getDeclaredMethods()));
+        members.addAll(List.of(AclInherit.class.getDeclaredConstructors()));
+        for (Executable member : members) {
+            if (member.getExceptionTypes().length != 0) {
+                wrong++;
+                System.out.println(member.getName() + " says that it throws something");
+            }
+        }
+        return wrong;
+    }
+
+    /** Can be compiled only if the constants are such to the compiler too, as the document writes them. */
+    private static String nameOf(int code) {
+        return switch (code) {
+            case AclInherit.BAD_ARG -> "BAD_ARG";
+            case AclInherit.FULL -> "FULL";
+            case AclInherit.NONE -> "NONE";
+            case AclInherit.BELOW -> "BELOW";
+            default -> "";
+        };
+    }
+
+    private static int wrongCodes() {
+        String[] names = {"", "BAD_ARG", "FULL", "NONE", "BELOW"};
+        int wrong = 0;
+        for (int n = 1; n < names.length; n++) {
+            if (!nameOf(-n).equals(names[n])) {
+                wrong++;
+                System.out.println(names[n] + " is not " + -n);
+            }
+        }
+        return wrong;
+    }
+
     public static void main(String[] args) {
         int wrong = 0;
         Set<String> seen = seenFace();
@@ -74,10 +114,15 @@ public final class FaceTest {
                 System.out.println("not in the document: " + member);
             }
         }
+        wrong += exceptionsNamed() + wrongCodes();
         String words = Modifier.toString(AclInherit.class.getModifiers());
         if (!words.equals("public final")) {
             wrong++;
             System.out.println("the class is " + words + ", due is public final");
+        }
+        if (AclInherit.class.getSuperclass() != Object.class || AclInherit.class.getInterfaces().length != 0) {
+            wrong++;
+            System.out.println("the class extends or implements another one");
         }
         System.out.println(wrong == 0 ? "the face is as due" : wrong + " members are not as due");
         if (wrong != 0) {

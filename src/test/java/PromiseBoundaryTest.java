@@ -1,6 +1,6 @@
-// The boundary cases that the document names under its promises: a method for each sentence, and
-// for the order in which a call's refusals are tested. That a refused call changes nothing is
-// RefusalTest's.
+// The sentences of the document under its promises, and the boundary cases that they name: above the
+// methods for each sentence stand the document's words. That a refused call changes nothing is
+// StateTest's.
 public final class PromiseBoundaryTest extends Check {
 
     /** Objects 1 to 3 in a chain; 9 was there, full and closed, and is gone; all others never stood. */
@@ -166,6 +166,30 @@ public final class PromiseBoundaryTest extends Check {
         due("0 stands, but is out of range first", x.create(0, 0), BAD_ARG);
     }
 
+    // "Otherwise 0."
+
+    private static void p02Otherwise0() {
+        for (int q = 0; q <= 15; q++) {
+            for (int o = 1; o <= 15; o++) {
+                if (o != q) {
+                    AclInherit x = allBut(o);
+                    due("create(" + o + ", " + q + ")", x.create(o, q), 0);
+                    due("its parent", x.parentOf(o), q);
+                }
+            }
+        }
+    }
+
+    private static AclInherit allBut(int o) {
+        AclInherit x = new AclInherit();
+        for (int each = 1; each <= 15; each++) {
+            if (each != o) {
+                due("create " + each, x.create(each, 0), 0);
+            }
+        }
+        return x;
+    }
+
     // Promise 3: "Object o no longer stands."
 
     private static void p03NoLongerStands() {
@@ -244,6 +268,19 @@ public final class PromiseBoundaryTest extends Check {
         due("3 was the parent of 9", x.remove(3), 0);
         due("then 2", x.remove(2), 0);
         due("then 1", x.remove(1), 0);
+    }
+
+    // "Otherwise 0."
+
+    private static void p03Otherwise0() {
+        for (int o = 1; o <= 15; o++) {
+            AclInherit x = allBut(o);
+            due("create(" + o + ", 0)", x.create(o, 0), 0);
+            due("remove(" + o + ")", x.remove(o), 0);
+            for (int each = 0; each <= 15; each++) {
+                due(each + " when " + o + " is gone", x.entries(each), each == o ? NONE : 0);
+            }
+        }
     }
 
     private static void p03TheOrder() {

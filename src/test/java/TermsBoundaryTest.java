@@ -1,7 +1,8 @@
 import java.util.List;
 
-// The boundary cases that the document names under "What it is" and "Terms", a method for each
-// sentence, which stands above it in the document's words.
+// The sentences of the document under "What it is" and "Terms", and the boundary cases that they name:
+// above the methods for each sentence stand the document's words. That no call throws and a refused
+// one changes nothing is StateTest's.
 public final class TermsBoundaryTest extends Check {
 
     // "An object is used for at most 512 calls after it has been made"
@@ -181,6 +182,17 @@ public final class TermsBoundaryTest extends Check {
         due("into 7 again", x.member(7, 1, 1), 1);
         due("out of 7", x.member(7, 1, 0), 1);
         due("no longer in 7", x.member(7, 1, 0), 0);
+    }
+
+    // "A WHO is a person or a group"
+
+    private static void aWhoIsAPersonOrAGroup() {
+        for (int who = 0; who <= 7; who++) {
+            due("entry for " + who, new AclInherit().entry(0, who, 1, ALLOW), 1);
+        }
+        for (int who : NOT_WHOS) {
+            due("entry for " + who, new AclInherit().entry(0, who, 1, ALLOW), BAD_ARG);
+        }
     }
 
     // "a who COVERS person p if it is p or a group that has p"
@@ -465,6 +477,56 @@ public final class TermsBoundaryTest extends Check {
         }
     }
 
+    // "an entry has a kind (1 allows, 0 denies), a who, a set of rights and FLAGS, the sum of 1 (passed
+    // on), 2 (not for itself) and 4 (one step only)"
+
+    /** Group 6 has the persons 0 and 2, group 7 the persons 2, 3 and 5. */
+    private static boolean isCovered(int who, int p) {
+        return who < 6 ? who == p : ((who == 6 ? 1 + 4 : 4 + 8 + 32) >> p) % 2 == 1;
+    }
+
+    private static AclInherit chainWithGroups() {
+        AclInherit x = chain(3);
+        for (int p = 0; p < 6; p++) {
+            x.member(6, p, isCovered(6, p) ? 1 : 0);
+            x.member(7, p, isCovered(7, p) ? 1 : 0);
+        }
+        return x;
+    }
+
+    private static void everyEntryThatAllows() {
+        for (int k = 0; k < 8 * 16 * 8; k++) {
+            int who = k / 128;
+            int rights = k / 8 % 16;
+            int flags = k % 8;
+            AclInherit x = chainWithGroups();
+            due("entry(0, " + who + ", " + rights + ", 8 + " + flags + ")", x.entry(0, who, rights, 8 + flags), 1);
+            for (int o = 0; o <= 3; o++) {
+                for (int p = 0; p < 6; p++) {
+                    boolean counts = isInList(flags, o) && isCovered(who, p);
+                    due("allowed " + k + ": rights of " + p + " on " + o, x.rights(o, p), counts ? rights : 0);
+                }
+            }
+        }
+    }
+
+    private static void everyEntryThatDenies() {
+        for (int k = 0; k < 8 * 16 * 8; k++) {
+            int who = k / 128;
+            int rights = k / 8 % 16;
+            int flags = k % 8;
+            for (int p = 0; p < 6; p++) {
+                AclInherit x = chainWithGroups();
+                x.entry(0, p, 15, ALLOW + PASSED_ON);
+                due("entry(0, " + who + ", " + rights + ", " + flags + ")", x.entry(0, who, rights, flags), 2);
+                for (int o = 0; o <= 3; o++) {
+                    boolean counts = isInList(flags, o) && isCovered(who, p);
+                    due("denied " + k + ": rights of " + p + " on " + o, x.rights(o, p), counts ? 15 - rights : 15);
+                }
+            }
+        }
+    }
+
     // "first the entries of o itself without the flag 2: the denying ones in the order of o's list,
     // then the allowing ones in that order"
 
@@ -693,13 +755,65 @@ public final class TermsBoundaryTest extends Check {
         due("groups deny what the person is allowed", x.rights(0, 0), 12);
     }
 
-    // "The constants"
+    // "The constants: `BAD_ARG = -1`: An argument is out of its range."
 
-    private static void theConstants() {
+    private static void badArg() {
         due("BAD_ARG", AclInherit.BAD_ARG, -1);
+        AclInherit x = chain(1);
+        due("create", x.create(16, 0), AclInherit.BAD_ARG);
+        due("remove", x.remove(0), AclInherit.BAD_ARG);
+        due("move", x.move(1, 16), AclInherit.BAD_ARG);
+        due("close", x.close(16, 1), AclInherit.BAD_ARG);
+        due("member", x.member(6, 6, 1), AclInherit.BAD_ARG);
+        due("entry", x.entry(1, 0, 0, 16), AclInherit.BAD_ARG);
+        due("drop", x.drop(16, 0), AclInherit.BAD_ARG);
+        due("entries", x.entries(16), AclInherit.BAD_ARG);
+        due("rights", x.rights(1, 6), AclInherit.BAD_ARG);
+        due("who", x.who(1, 4), AclInherit.BAD_ARG);
+        due("count", x.count(6, 0), AclInherit.BAD_ARG);
+        due("reach", x.reach(6), AclInherit.BAD_ARG);
+        due("stir", x.stir(16), AclInherit.BAD_ARG);
+    }
+
+    // "`FULL = -2`: The object has 4 entries."
+
+    private static void full() {
         due("FULL", AclInherit.FULL, -2);
+        AclInherit x = new AclInherit();
+        fill(x, 0);
+        due("entry", x.entry(0, 0, 0, 0), AclInherit.FULL);
+    }
+
+    // "`NONE = -3`: The object does not stand (or, for create, stands), or there is no such thing."
+
+    private static void none() {
         due("NONE", AclInherit.NONE, -3);
+        AclInherit x = chain(1);
+        due("create", x.create(1, 0), AclInherit.NONE);
+        due("create below", x.create(2, 3), AclInherit.NONE);
+        due("remove", x.remove(2), AclInherit.NONE);
+        due("move", x.move(2, 0), AclInherit.NONE);
+        due("parentOf", x.parentOf(2), AclInherit.NONE);
+        due("parentOf(0)", x.parentOf(0), AclInherit.NONE);
+        due("parentOf(16)", x.parentOf(16), AclInherit.NONE);
+        due("close", x.close(2, 1), AclInherit.NONE);
+        due("entry", x.entry(2, 0, 0, 0), AclInherit.NONE);
+        due("drop", x.drop(2, 0), AclInherit.NONE);
+        due("drop, no such entry", x.drop(1, 0), AclInherit.NONE);
+        due("entries", x.entries(2), AclInherit.NONE);
+        due("rights", x.rights(2, 0), AclInherit.NONE);
+        due("who", x.who(2, 0), AclInherit.NONE);
+        due("stir", x.stir(2), AclInherit.NONE);
+    }
+
+    // "`BELOW = -4`: The object has objects below it, or the move would put it below itself."
+
+    private static void below() {
         due("BELOW", AclInherit.BELOW, -4);
+        AclInherit x = chain(3);
+        due("remove", x.remove(1), AclInherit.BELOW);
+        due("move to itself", x.move(1, 1), AclInherit.BELOW);
+        due("move below itself", x.move(1, 3), AclInherit.BELOW);
     }
 
     public static void main(String[] args) {

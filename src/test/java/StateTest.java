@@ -4,11 +4,14 @@ import java.util.HashSet;
 import java.util.List;
 import java.util.Set;
 import java.util.function.Consumer;
+import java.util.function.Supplier;
+import java.util.function.ToIntFunction;
 
 // "No call ever throws. A refused call answers the code named and changes nothing.": for each promise
 // the call with all its edge arguments, in several states. Each answer is compared with the model's;
-// an object after a refused call is compared with one that never got the call.
-public final class RefusalTest extends Check {
+// an object after a refused call is compared with one that never got the call, and after a call that
+// was taken with the model, so that it changes what its promise says and no more.
+public final class StateTest extends Check {
     private static final int[] OBJECTS =
         {MIN, -1, 0, 1, 2, 3, 4, 5, 6, 7, 8, 9, 10, 11, 12, 13, 14, 15, 16, MAX};
     private static final int[] FEW_OBJECTS = {MIN, -1, 0, 1, 3, 8, 9, 10, 15, 16, MAX};
@@ -42,6 +45,20 @@ public final class RefusalTest extends Check {
                 call.on(m);
             }
             return m;
+        }
+
+        int[][] seenAfter(List<Call> more) {
+            return lookEachWay(() -> {
+                AclInherit x = built();
+                return call -> call.on(x);
+            }, more);
+        }
+
+        int[][] dueAfter(List<Call> more) {
+            return lookEachWay(() -> {
+                Model m = modelled();
+                return call -> call.on(m);
+            }, more);
         }
     }
 
@@ -147,22 +164,23 @@ public final class RefusalTest extends Check {
         }
     }
 
-    private static int[] look(AclInherit x, List<Call> asked) {
+    private static int[] look(ToIntFunction<Call> used, List<Call> asked) {
         int[] seen = new int[asked.size()];
         for (int k = 0; k < seen.length; k++) {
-            seen[k] = asked.get(k).on(x);
+            seen[k] = used.applyAsInt(asked.get(k));
         }
         return seen;
     }
 
-    private static int[][] lookEachWay(State state, List<Call> before) {
+    /** What is seen after the calls; each way to look gets an object, or a model, of its own. */
+    private static int[][] lookEachWay(Supplier<ToIntFunction<Call>> makes, List<Call> before) {
         int[][] seen = new int[WAYS_TO_LOOK.size()][];
         for (int way = 0; way < seen.length; way++) {
-            AclInherit x = state.built();
+            ToIntFunction<Call> used = makes.get();
             for (Call call : before) {
-                call.on(x);
+                used.applyAsInt(call);
             }
-            seen[way] = look(x, WAYS_TO_LOOK.get(way));
+            seen[way] = look(used, WAYS_TO_LOOK.get(way));
         }
         return seen;
     }
@@ -171,15 +189,18 @@ public final class RefusalTest extends Check {
     private static void tryAll(List<Call> calls, boolean onlyAsks, int... named) {
         Set<Integer> answers = new HashSet<>();
         for (State state : states()) {
-            int[][] untouched = lookEachWay(state, List.of());
+            int[][] untouched = state.seenAfter(List.of());
             for (Call call : calls) {
                 int answer = call.on(state.built());
                 due(call + " on " + state.name(), answer, call.on(state.modelled()));
                 answers.add(answer);
+                int[][] touched = state.seenAfter(List.of(call));
                 if (onlyAsks || answer < 0) {
-                    int[][] touched = lookEachWay(state, List.of(call));
                     boolean same = Arrays.deepEquals(touched, untouched);
                     due(call + " on " + state.name() + " leaves all as it was", same, true);
+                } else {
+                    boolean asDue = Arrays.deepEquals(touched, state.dueAfter(List.of(call)));
+                    due(call + " on " + state.name() + " changes what it should and no more", asDue, true);
                 }
             }
         }
@@ -213,31 +234,31 @@ public final class RefusalTest extends Check {
 
     // "A refused call answers the code named and changes nothing."
 
-    private static void p02CreateRefused() {
+    private static void p02Create() {
         tryAll(calls("create", OBJECTS, OBJECTS), false, BAD_ARG, NONE, 0);
     }
 
-    private static void p03RemoveRefused() {
+    private static void p03Remove() {
         tryAll(calls("remove", OBJECTS), false, BAD_ARG, NONE, BELOW, 0);
     }
 
-    private static void p04MoveRefused() {
+    private static void p04Move() {
         tryAll(calls("move", OBJECTS, OBJECTS), false, BAD_ARG, NONE, BELOW, 0, 14);
     }
 
-    private static void p06CloseRefused() {
+    private static void p06Close() {
         tryAll(calls("close", OBJECTS, SWITCHES), false, BAD_ARG, NONE, 0, 1);
     }
 
-    private static void p07MemberRefused() {
+    private static void p07Member() {
         tryAll(calls("member", GROUPS, PERSONS, SWITCHES), false, BAD_ARG, 0, 1);
     }
 
-    private static void p08EntryRefused() {
+    private static void p08Entry() {
         tryAll(calls("entry", FEW_OBJECTS, WHOS, SETS, SETS), false, BAD_ARG, NONE, FULL, 1);
     }
 
-    private static void p09DropRefused() {
+    private static void p09Drop() {
         tryAll(calls("drop", OBJECTS, PLACES), false, BAD_ARG, NONE, 0, 3);
     }
 
@@ -309,6 +330,6 @@ public final class RefusalTest extends Check {
     }
 
     public static void main(String[] args) {
-        runAll(RefusalTest.class);
+        runAll(StateTest.class);
     }
 }
